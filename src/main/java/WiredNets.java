@@ -38,12 +38,13 @@ public final class WiredNets {
         draft = new Net();
         reader = new Reader();
         group = new Group();
-        spread = new Spread();
+        Spread shared = new Spread();
+        spread = shared;
         flow = new Flow();
         numbers = new Numbers();
-        changer = new Changer(spread);
+        changer = new Changer(shared);
         smalls = new Smalls();
-        faller = new Faller(spread);
+        faller = new Faller(shared);
         floor = new Floor();
         table = new Table();
     }
@@ -844,8 +845,7 @@ public final class WiredNets {
         }
 
         boolean areMoves(int moves) {
-            int many = Integer.bitCount(moves);
-            if (many < 1 || many > MOST_DEGREE || (moves & 1) != 0 || moves >>> a * b != 0) {
+            if (Integer.bitCount(moves) > MOST_DEGREE || (moves & 1) != 0 || moves >>> a * b != 0) {
                 return false;
             }
             for (int left = moves; left != 0; left &= left - 1) {
@@ -856,8 +856,9 @@ public final class WiredNets {
             return true;
         }
 
+        /** A net without moves has degree 1 all the same. */
         void turn(Net net, int moves) {
-            net.begin(a * b, Integer.bitCount(moves));
+            net.begin(a * b, Math.max(1, Integer.bitCount(moves)));
             for (int x = 0; x < net.knots; x++) {
                 for (int left = moves; left != 0; left &= left - 1) {
                     net.rows[x] |= 1 << after(x, lowest(left));

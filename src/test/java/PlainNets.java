@@ -348,7 +348,7 @@ public final class PlainNets {
         if (moves < 0 || moves >= 1L << n || moves % 2 != 0 || Integer.bitCount(moves) > 8) {
             return null;
         }
-        Net net = new Net(n, Integer.bitCount(moves));
+        Net net = new Net(n, Math.max(1, Integer.bitCount(moves)));
         for (int s = 0; s < n; s++) {
             if ((moves >> s & 1) == 0) {
                 continue;
@@ -372,7 +372,7 @@ public final class PlainNets {
             return false;
         }
         Net net = turnedBy(group, a, b, moves);
-        if (net == null || moves == 0) {
+        if (net == null) {
             return false;
         }
         slots[slot] = net;

@@ -1,0 +1,137 @@
+import java.io.IOException;
+import java.lang.reflect.Constructor;
+import java.lang.reflect.Field;
+import java.lang.reflect.Method;
+import java.lang.reflect.Modifier;
+import java.nio.file.Files;
+import java.nio.file.Path;
+import java.util.ArrayList;
+import java.util.Arrays;
+import java.util.HashSet;
+import java.util.List;
+import java.util.Set;
+import java.util.TreeSet;
+import java.util.regex.Matcher;
+import java.util.regex.Pattern;
+
+/** The public face is the document's and no more, and the file keeps to those rules that can be counted. */
+public final class FaceTest {
+    private static final String GONE = " throws NoSuchElementException";
+    private static final String WRONG = GONE + ",IllegalArgumentException";
+    private static final String[] FACE = {
+        "boolean net(int,int,int)", "boolean line(int,int,int)" + GONE, "boolean off(int,int,int)" + GONE,
+        "int feed(int,int,int,int,int)", "int read(int,int)" + WRONG, "int fault()",
+        "boolean turned(int,int,int,int,int)", "boolean glued(int,int,int,int)" + GONE, "boolean copy(int,int)" + GONE,
+        "int about(int,int)" + GONE, "int lineAt(int,int)" + GONE, "int distance(int,int,int)" + GONE,
+        "int far(int,int)" + GONE, "int apart(int,int,int)" + GONE, "long poly(int,int)" + WRONG,
+        "int above(int,int)" + WRONG, "long walks(int,int)" + WRONG, "boolean change(int,int,int,boolean)" + GONE,
+        "int better(int)" + GONE, "int cool(int,int,int,int)" + WRONG,
+        "int seek(int,int,int,int) throws IllegalArgumentException",
+        "int small(int,int,int) throws IllegalArgumentException", "int found(int)" + GONE,
+        "int bound(int,int) throws IllegalArgumentException", "int falls(int,int,int)" + WRONG,
+        "int fallen(int)" + GONE, "int halves(int)" + GONE, "int lay(int,int)" + WRONG, "int laid(int)" + GONE,
+        "int hop(int,int,int)" + GONE, "boolean locks(int)" + GONE, "int load(int,int,int)" + GONE,
+        "int heavy(int,int)" + GONE, "int upward(int,int,int)" + GONE, "int tell(int,int)" + GONE,
+        "int grow(int,int)" + WRONG, "int missing(int)" + GONE, "int count(int)" + GONE};
+
+    private FaceTest() {
+    }
+
+    public static void main(String[] args) throws IOException {
+        face();
+        insides();
+        source(Files.readString(Path.of(args[0])));
+        Check.end("FaceTest");
+    }
+
+    private static void face() {
+        Class<?> c = WiredNets.class;
+        Check.same("public final class", Modifier.PUBLIC | Modifier.FINAL, c.getModifiers());
+        Set<String> met = new TreeSet<>();
+        for (Method m : c.getDeclaredMethods()) {
+            if (!Modifier.isPrivate(m.getModifiers())) {
+                Check.same("modifiers of " + m.getName(), Modifier.PUBLIC, m.getModifiers());
+                met.add(told(m));
+            }
+        }
+        Set<String> due = new TreeSet<>(Arrays.asList(FACE));
+        Check.hold("methods " + met + ", due are " + due, met.equals(due));
+        Constructor<?>[] made = c.getDeclaredConstructors();
+        Check.hold("one public constructor", made.length == 1 && made[0].getParameterCount() == 0
+            && Modifier.isPublic(made[0].getModifiers()));
+        List<String> fields = new ArrayList<>();
+        for (Field f : c.getDeclaredFields()) {
+            if (!Modifier.isPrivate(f.getModifiers())) {
+                fields.add(Modifier.toString(f.getModifiers()) + " " + f.getType() + " " + f.getName());
+            }
+        }
+        Check.hold("constants " + fields, fields.equals(List.of("public static final int NONE")));
+    }
+
+    private static String told(Method m) {
+        StringBuilder out = new StringBuilder(m.getReturnType() + " " + m.getName() + "(");
+        for (Class<?> type : m.getParameterTypes()) {
+            out.append(out.charAt(out.length() - 1) == '(' ? "" : ",").append(type);
+        }
+        out.append(')');
+        String before = " throws ";
+        for (Class<?> thrown : m.getExceptionTypes()) {
+            out.append(before).append(thrown.getSimpleName());
+            before = ",";
+        }
+        return out.toString();
+    }
+
+    private static void insides() {
+        Set<String> face = new HashSet<>();
+        for (String method : FACE) {
+            face.add(method.substring(method.indexOf(' ') + 1, method.indexOf('(')));
+        }
+        List<Class<?>> classes = new ArrayList<>(Arrays.asList(WiredNets.class.getDeclaredClasses()));
+        for (Class<?> inside : classes) {
+            Check.hold(inside + " is static", Modifier.isStatic(inside.getModifiers()));
+            Check.hold(inside + " has none inside", inside.getDeclaredClasses().length == 0);
+        }
+        classes.add(WiredNets.class);
+        Check.hold("at most twelve classes", classes.size() <= 12);
+        for (Class<?> c : classes) {
+            int fields = 0;
+            for (Field f : c.getDeclaredFields()) {
+                boolean constant = Modifier.isStatic(f.getModifiers());
+                Check.hold(f + " is final", !constant || Modifier.isFinal(f.getModifiers()));
+                fields += constant ? 0 : 1;
+            }
+            Check.hold(c + " has at most twenty fields", fields <= 20);
+            for (Method m : c.getDeclaredMethods()) {
+                Check.hold(m + " has at most seven parameters", m.getParameterCount() <= 7);
+                boolean ofFace = c == WiredNets.class && Modifier.isPublic(m.getModifiers());
+                Check.hold(m + " bears no name of the face", ofFace || !face.contains(m.getName()));
+            }
+        }
+    }
+
+    private static void source(String text) {
+        String code = text.replaceAll("(?s)/\\*.*?\\*/|//[^\n]*", "");
+        String[] never = {"->", "::", "\\bfinally\\b", "\\bsynchronized\\b", "\\bassert\\b", "\\btry\\b", "\\bcatch\\b",
+            "\\bstatic \\{", "Exact\\b", "System\\.(?!arraycopy)", "\\bpackage\\b", "\\bRandom\\b", "\\bObject\\b",
+            "Integer\\.(?!bitCount)", "Long\\.(?!bitCount)", "Math\\.(?!(max|min|abs)\\()", "\\bdouble\\b", "\\bfloat\\b",
+            "import (?!java\\.util\\.NoSuchElementException;)", "[^\\x00-\\x7f]",
+            "throw new (?!(NoSuchElement|IllegalArgument)Exception\\(\\);)"};
+        for (String pattern : never) {
+            Matcher found = Pattern.compile(pattern).matcher(code);
+            Check.hold("the file has none of " + pattern, !found.find());
+        }
+        int start = 0;
+        String[] lines = text.split("\n");
+        for (int i = 0; i < lines.length; i++) {
+            Check.hold("line " + (i + 1) + " has at most 120 signs", lines[i].length() <= 120);
+            if (lines[i].matches(" {4,8}[a-z][^=;]*\\) ?(throws [A-Za-z, ]+)?\\{")) {
+                start = i;
+            }
+            if (lines[i].matches(" {4,8}}")) {
+                Check.hold("what ends in line " + (i + 1) + " is short", i - start <= 60 || start == 0
+                    || lines[i].length() == 5);
+            }
+        }
+    }
+}
