@@ -351,11 +351,8 @@ public final class WiredNets {
         if (what == 2) {
             return table.worstPattern(net);
         }
-        int heaviest = table.heaviest(net);
-        if (what == 1) {
-            return heaviest;
-        }
-        return heaviest == NONE ? 0 : table.waysAlong(net, heaviest / LINE_BASE, heaviest % LINE_BASE);
+        table.findHeaviest(net);
+        return what == 1 ? table.heaviest : table.mostWays;
     }
 
     public int upward(int slot, int root, int what) throws NoSuchElementException {
@@ -460,9 +457,9 @@ public final class WiredNets {
             begin(x.knots * y.knots, x.degree + y.degree);
             for (int q = 0; q < y.knots; q++) {
                 for (int p = 0; p < x.knots; p++) {
-                    int row = hung && q > 0 ? 0 : x.rows[p] << x.knots * q;
+                    int row = hung && q > 0 ? 0 : x.rows[p] << (x.knots * q);
                     for (int left = y.rows[q]; left != 0; left &= left - 1) {
-                        row |= 1 << p + x.knots * lowest(left);
+                        row |= 1 << (p + x.knots * lowest(left));
                     }
                     rows[p + x.knots * q] = row;
                 }
@@ -488,7 +485,7 @@ public final class WiredNets {
 
         /** The knots over a that are joined with it. */
         int higher(int a) {
-            return rows[a] & -2 << a;
+            return rows[a] & (-2 << a);
         }
 
         int lines() {
@@ -845,7 +842,7 @@ public final class WiredNets {
         }
 
         boolean areMoves(int moves) {
-            if (Integer.bitCount(moves) > MOST_DEGREE || (moves & 1) != 0 || moves >>> a * b != 0) {
+            if (Integer.bitCount(moves) > MOST_DEGREE || (moves & 1) != 0 || moves >>> (a * b) != 0) {
                 return false;
             }
             for (int left = moves; left != 0; left &= left - 1) {
@@ -924,7 +921,7 @@ public final class WiredNets {
                 far = edge != 0 ? step : far;
                 sum += step * Integer.bitCount(edge);
             }
-            if (reached == (1 << a * b) - 1 && isBetter(far, sum, moves)) {
+            if (reached == (1 << (a * b)) - 1 && isBetter(far, sum, moves)) {
                 bestFar = far;
                 bestSum = sum;
                 bestMoves = moves;
@@ -1106,7 +1103,7 @@ public final class WiredNets {
         /** Each knot is split into a side where ways come in and one where they go out (24 more). */
         private int waysByKnots(Net net, int a, int b, int limit) {
             for (int v = 0; v < MOST_KNOTS; v++) {
-                open[v] = 1L << MOST_KNOTS + v;
+                open[v] = 1L << (MOST_KNOTS + v);
                 open[MOST_KNOTS + v] = net.rows[v];
             }
             int ways = 0;
@@ -1517,10 +1514,13 @@ public final class WiredNets {
         private final int[] leasts = new int[(MOST + 1) * MOST_KINDS];
         private final int[] alike = new int[(MOST + 1) * MOST_KINDS];
         private final int[] kindsOf = new int[MOST + 1];
-        private final int[] seen = new int[1 << MOST_PAIRS - 5];
+        private final int[] seen = new int[1 << (MOST_PAIRS - 5)];
         private final int[] queue = new int[MOST_ALIKE];
         private int queued;
         private final int[] rows = new int[MOST];
+        /** Bits of the pairs of v with lesser knots, with knots greater than v + 1. */
+        private final int[] withLesser = new int[MOST];
+        private final int[] withGreater = new int[MOST];
 
         void gather(int n, int d, int k) {
             if (kindsOf[n] == 0) {
@@ -1583,6 +1583,9 @@ public final class WiredNets {
             for (int i = 0; i < seen.length; i++) {
                 seen[i] = 0;
             }
+            for (int v = 0; v < n - 1; v++) {
+                markPairs(n, v);
+            }
             int found = 0;
             for (int bits = 0; bits < 1 << pairs && found < MOST_KINDS; bits++) {
                 if ((seen[bits >> 5] >> (bits & 31) & 1) == 0) {
@@ -1615,16 +1618,20 @@ public final class WiredNets {
             }
         }
 
-        /** Knots v and v + 1 change numbers: their pairs with a lesser knot, then with a greater one. */
-        private static int renumber(int n, int v, int bits) {
-            int out = bits;
+        /** Each lesser knot's pairs with v and v + 1 are neighbours; those of v with greater ones are a row. */
+        private void markPairs(int n, int v) {
             int pair = v - 1;
+            withLesser[v] = 0;
             for (int x = 0; x < v; x++) {
-                out = changeBits(out, 1 << pair, 1);
+                withLesser[v] |= 1 << pair;
                 pair += n - 2 - x;
             }
-            int greater = (1 << n - 2 - v) - 1;
-            return changeBits(out, greater << pair + 2, n - 2 - v);
+            withGreater[v] = ((1 << (n - 2 - v)) - 1) << (pair + 2);
+        }
+
+        /** Knots v and v + 1 change numbers. */
+        private int renumber(int n, int v, int bits) {
+            return changeBits(changeBits(bits, withLesser[v], 1), withGreater[v], n - 2 - v);
         }
 
         /** The bits of a mask change with those that lie so much higher. */
@@ -1810,6 +1817,8 @@ public final class WiredNets {
         private final int[] queue = new int[2 * MOST_LINES];
         private int[] near = new int[MOST_KNOTS];
         private int[] nearer = new int[MOST_KNOTS];
+        int heaviest;
+        int mostWays;
         private final int[] senders = new int[MOST_KNOTS];
         private final int[] servedBy = new int[MOST_KNOTS];
         private int tried;
@@ -1887,22 +1896,21 @@ public final class WiredNets {
             return ways;
         }
 
-        /** The first line in a direction with the greatest load, NONE without lines. */
-        int heaviest(Net net) {
-            int most = NONE;
-            int found = NONE;
+        /** The first line in a direction with the greatest load; each line has some. */
+        void findHeaviest(Net net) {
+            heaviest = NONE;
+            mostWays = 0;
             trackWays(net.knots);
             for (int a = 0; a < net.knots; a++) {
                 for (int left = net.rows[a]; left != 0; left &= left - 1) {
                     int b = lowest(left);
                     int ways = countAlong(net.knots, a, b);
-                    if (ways > most) {
-                        most = ways;
-                        found = LINE_BASE * a + b;
+                    if (ways > mostWays) {
+                        mostWays = ways;
+                        heaviest = LINE_BASE * a + b;
                     }
                 }
             }
-            return found;
         }
 
         /** It locks if lines that wait for no other one, taken away again and again, leave some. */

@@ -149,6 +149,12 @@ public final class BuildTest {
         fault("knots 3 degree 2 2;", 1, 17);
         fault("knots 3 degree 2;;", 1, 17);
         fault("knots 3 degree 2; rows 0 1;", 1, 18);
+        fault("knots 3 degree 2; rowz 0 1;", 1, 18);
+        fault("knots 3 degree 2; arow 0 1;", 1, 18);
+        fault("knots 3 degree 2; row{ 0 1;", 1, 21);
+        fault("knots 3 degree 2; row` 0 1;", 1, 21);
+        fault("knots 3 degree 2; row :0 1;", 1, 22);
+        fault("knots 3 degree 2; row /0 1;", 1, 22);
         fault("knots 3 degree 2; knots 0 1;", 1, 18);
         fault("knots 3 degree 2; 0 1;", 1, 18);
         fault("knots 3 degree 2; row;", 1, 21);
