@@ -1168,12 +1168,12 @@ public final class WiredNets {
         }
 
         /**
-         * One of the first knots, one more than fall, stays: the least such one is cut off from
-         * some later knot, so that earlier ones need no other partners.
+         * The first knot that stays is cut off from some later one, and comes at latest behind as many
+         * as fall: no knot further on need be looked at.
          */
         int fewestKnots(Net net) {
             int fewest = net.knots - 1;
-            for (int a = 0; a <= fewest && a < net.knots; a++) {
+            for (int a = 0; a < fewest; a++) {
                 for (int b = a + 1; b < net.knots; b++) {
                     if (!net.joins(a, b)) {
                         fewest = waysByKnots(net, a, b, fewest);

@@ -254,6 +254,8 @@ public final class BuildTest {
         WiredNets x = new WiredNets();
         Check.hold("ring of 24", turn(x, 0, 24, 1, 1, 23));
         Check.due("ring of 24", 24, () -> x.far(2, 2));
+        Check.hold("ring of 24, the other place", turn(x, 0, 1, 24, 1, 23));
+        Check.due("ring of 24, the other place", 24, () -> x.far(2, 2));
         Check.hold("floor of 4 by 6", turn(x, 0, 4, 6, 1, 3, 4, 20));
         Check.due("degree", 4, () -> x.about(2, 1));
         Check.due("lines", 48, () -> x.about(2, 2));

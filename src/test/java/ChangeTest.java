@@ -138,6 +138,7 @@ public final class ChangeTest {
         seek(WiredNets.NONE, 1, 2, 2, 1);
         // Found once by trying every set of things with PlainNets.
         seek(323136, 0, 24, 1, 8);
+        seek(323136, 0, 1, 24, 8);
         seek(77824, 1, 12, 2, 3);
         seek(77984, 1, 12, 2, 5);
         seek(307472, 1, 12, 2, 6);
