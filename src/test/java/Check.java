@@ -37,6 +37,14 @@ final class Check {
         }
     }
 
+    static void text(String what, String want, String got) {
+        made++;
+        if (!want.equals(got)) {
+            wrong++;
+            System.out.println(what + " shows\n" + got + "\ndue is\n" + want);
+        }
+    }
+
     static void hold(String what, boolean holds) {
         same(what, 1, holds ? 1 : 0);
     }
