@@ -12,6 +12,7 @@ public final class HarmEdgesTest {
         fallsOfStars();
         fallsWithoutLines();
         fallsOfLikeOnes();
+        fallsOfTheLastOf96Lines();
         fallsAreKept();
         fallsLeaveTheNet();
         halvesByFormula();
@@ -183,6 +184,32 @@ public final class HarmEdgesTest {
             long fell = Check.answerOf(() -> twin.plain.fallen(at));
             twin.same("fallen " + at + " behind " + call, fell, () -> twin.wired.fallen(at));
         }
+    }
+
+    /** Even and odd KNOTS, each with eight LINES, joined by 20-21 and by 22-23, the last of all: both must fall. */
+    private static void fallsOfTheLastOf96Lines() {
+        WiredNets x = new WiredNets();
+        x.net(0, 24, 8);
+        for (int i = 0; i < 12; i++) {
+            for (int move = 1; move <= 4; move++) {
+                int j = (i + move) % 12;
+                if (i != 10 || j != 11) {
+                    Check.hold("even", x.line(0, 2 * i, 2 * j));
+                    Check.hold("odd", x.line(0, 2 * i + 1, 2 * j + 1));
+                }
+            }
+        }
+        Check.hold("20-21", x.line(0, 20, 21));
+        Check.hold("22-23", x.line(0, 22, 23));
+        Check.due("96 lines", 96, () -> x.about(0, 2));
+        Check.due("the last line", 32 * 22 + 23, () -> x.lineAt(0, 95));
+        int other = 0;
+        while (x.lineAt(0, other) != 32 * 20 + 21) {
+            other++;
+        }
+        falls("96 lines", x, 0, 100, other, 95);
+        Check.due("thin", 2, () -> x.far(0, 3));
+        Check.due("thin of knots", 2, () -> x.far(0, 4));
     }
 
     private static void kept(WiredNets x, String behind, int... row) {

@@ -17,6 +17,7 @@ public final class MeasureEdgesTest {
         allButOneLine();
         distances();
         waysApart();
+        waysSetFreeAgain();
         polynomialsByFormula();
         twelveAndThirteen();
         ownNumbersByFormula();
@@ -177,6 +178,34 @@ public final class MeasureEdgesTest {
         for (int b = 1; b < 24; b++) {
             int to = b;
             Check.due("eight ways to " + to, 8, () -> full.apart(0, 0, to));
+        }
+    }
+
+    /**
+     * Who finds ways one behind another must set a LINE free again here, which an earlier way took and a later one
+     * went back on: otherwise the last way is not found, or one too many is.
+     */
+    private static void waysSetFreeAgain() {
+        int[][] nets = {{1048584, 614400, 4680, 524549, 2098944, 4194368, 266276, 8472576, 2097176, 132116, 528, 8945792, 294980,
+            8404994, 73858, 268288, 16514, 3146240, 36928, 4196362, 6422529, 1179920, 9961504, 4204672},
+            {90112, 11141152, 6480, 4194384, 4194380, 393346, 2076, 2360864, 8945668, 2228352, 2121856, 4231236, 4229124,
+            1377281, 328705, 137472, 1073153, 8946210, 2121888, 8519938, 73728, 263810, 6168, 655618},
+            {3616, 12, 2562, 2066, 2184, 5633, 1280, 16, 1600, 4389, 4449, 29, 1568}};
+        int[][] due = {{7, 21, 4}, {4, 0, 3}, {8, 3, 2}};
+        for (int i = 0; i < nets.length; i++) {
+            int n = nets[i].length;
+            Twin twin = Twin.of(n + " knots", n, 8);
+            for (int a = 0; a < n; a++) {
+                for (int b = a + 1; b < n; b++) {
+                    if ((nets[i][a] >> b & 1) == 1) {
+                        Check.hold("line", twin.wired.line(0, a, b) && twin.plain.line(0, a, b));
+                    }
+                }
+            }
+            int[] d = due[i];
+            Check.due("apart " + d[0] + " " + d[1], d[2], () -> twin.wired.apart(0, d[0], d[1]));
+            Check.due("apart " + d[1] + " " + d[0], d[2], () -> twin.wired.apart(0, d[1], d[0]));
+            Check.same("plain", d[2], twin.plain.apart(0, d[0], d[1]));
         }
     }
 

@@ -14,7 +14,7 @@ public final class SearchEdgesTest {
         seekOfOneThing();
         seekAllMoves();
         seekNone();
-        seekOfSmallGroups();
+        seekOfEveryGroup();
         seekOf24Things();
         seekIsBestOfTurned();
         seekLeavesNothing();
@@ -73,20 +73,112 @@ public final class SearchEdgesTest {
         seek(6, 0, 3, 1, 2);
     }
 
-    private static void seekOfSmallGroups() {
-        for (int a = 1; a <= 10; a++) {
-            for (int b = 1; a * b <= 10; b++) {
+    /** Every GROUP there is, by every degree; one object is asked for many of them. */
+    private static void seekOfEveryGroup() {
+        WiredNets x = new WiredNets();
+        int asked = 0;
+        for (int a = 24; a >= 1; a--) {
+            for (int b = 1; a * b <= 24; b++) {
                 for (int group = 0; group <= (b == 2 ? 1 : 0); group++) {
-                    for (int degree = 1; degree <= 8; degree++) {
-                        seek(new PlainNets().seek(group, a, b, degree), group, a, b, degree);
+                    int[] due = new Seeker(group, a, b).bestByDegree();
+                    if (asked + 16 > 512) {
+                        x = new WiredNets();
+                        asked = 0;
                     }
+                    for (int degree = 8; degree >= 1; degree--) {
+                        WiredNets of = x;
+                        int[] g = {group, a, b, degree};
+                        Check.due("seek " + group + " " + a + " " + b + " " + degree, due[degree],
+                            () -> of.seek(g[0], g[1], g[2], g[3]));
+                        // A small search behind each, so that none stands upon what the last one left.
+                        Check.due("seek of three things", degree > 1 ? 6 : NONE, () -> of.seek(0, 3, 1, g[3]));
+                    }
+                    asked += 16;
                 }
             }
         }
-        int[][] of12 = {{0, 12, 1, 3}, {0, 12, 1, 5}, {0, 4, 3, 3}, {0, 3, 4, 5}, {0, 2, 6, 4}, {0, 6, 2, 6}, {1, 6, 2, 2},
-            {1, 6, 2, 3}, {1, 6, 2, 4}, {1, 6, 2, 5}, {1, 6, 2, 6}, {1, 6, 2, 7}, {0, 11, 1, 4}, {0, 1, 12, 2}, {0, 12, 1, 8}};
-        for (int[] g : of12) {
-            seek(new PlainNets().seek(g[0], g[1], g[2], g[3]), g[0], g[1], g[2], g[3]);
+    }
+
+    /** Tries every set of MOVES of a GROUP, as the document says it. */
+    private static final class Seeker {
+        private final int group;
+        private final int a;
+        private final int b;
+        private final int[][] then;
+        private final int[] best = new int[9];
+        private final long[] worth = new long[9];
+
+        Seeker(int group, int a, int b) {
+            this.group = group;
+            this.a = a;
+            this.b = b;
+            then = new int[a * b][a * b];
+            for (int x = 0; x < a * b; x++) {
+                for (int y = 0; y < a * b; y++) {
+                    then[x][y] = putTogether(x, y);
+                }
+            }
+        }
+
+        private int putTogether(int x, int y) {
+            int turn = group == 1 && x / a == 1 ? x % a - y % a : x % a + y % a;
+            int flip = group == 1 ? (x / a == y / a ? 0 : 1) : (x / a + y / a) % b;
+            return Math.floorMod(turn, a) + a * flip;
+        }
+
+        int[] bestByDegree() {
+            for (int degree = 0; degree <= 8; degree++) {
+                best[degree] = NONE;
+                worth[degree] = Long.MAX_VALUE;
+            }
+            choose(1, 0, 0);
+            return best;
+        }
+
+        /** Takes or leaves each thing, and its opposite with the lesser one of both. */
+        private void choose(int thing, int moves, int many) {
+            if (many > 8) {
+                return;
+            }
+            if (thing == a * b) {
+                judge(moves, many);
+                return;
+            }
+            int opposite = 0;
+            while (then[thing][opposite] != 0) {
+                opposite++;
+            }
+            choose(thing + 1, moves, many);
+            if (opposite >= thing) {
+                choose(thing + 1, moves | 1 << thing | 1 << opposite, many + (opposite == thing ? 1 : 2));
+            }
+        }
+
+        private void judge(int moves, int many) {
+            int[] far = new int[a * b];
+            int[] queue = new int[a * b];
+            int reached = 1;
+            int sum = 0;
+            for (int at = 0; at < reached; at++) {
+                sum += far[queue[at]];
+                for (int s = 1; s < a * b; s++) {
+                    int next = then[queue[at]][s];
+                    if ((moves >> s & 1) == 1 && next != 0 && far[next] == 0) {
+                        far[next] = far[queue[at]] + 1;
+                        queue[reached++] = next;
+                    }
+                }
+            }
+            if (reached < a * b) {
+                return;
+            }
+            long price = (far[queue[reached - 1]] * 10000L + sum) * 10 + many;
+            for (int degree = Math.max(1, many); degree <= 8; degree++) {
+                if (price < worth[degree] || price == worth[degree] && moves < best[degree]) {
+                    worth[degree] = price;
+                    best[degree] = moves;
+                }
+            }
         }
     }
 

@@ -1,5 +1,4 @@
 import java.util.Locale;
-import java.util.Map;
 
 /** Terms and promises 5 to 7: the edges of the tape, of texts and of their faults. */
 public final class TextEdgesTest {
@@ -19,6 +18,7 @@ public final class TextEdgesTest {
         faultsComeAndGo();
         blanks();
         everyByteWhereAWordIsDue();
+        everyByteBehindAWord();
         everyByteBetweenKnots();
         everyByteWhereANumberIsDue();
         wordsByTheLongestRow();
@@ -38,6 +38,7 @@ public final class TextEdgesTest {
         firstAlongTheText();
         offs();
         everyBeginning();
+        everyByteEverywhere();
         Check.end("TextEdgesTest");
     }
 
@@ -224,6 +225,28 @@ public final class TextEdgesTest {
         }
     }
 
+    /** Every byte that follows 'row': a letter makes another word of it, none else does. */
+    private static void everyByteBehindAWord() {
+        for (int sign = 0; sign < 256; sign++) {
+            String text = HEAD + "row" + (char) sign + " 0 1;";
+            if (sign == 32 || sign == 10) {
+                good(text, "3 2: 0-1");
+            } else if (sign >= 'a' && sign <= 'z') {
+                fault(text, 1, 17);
+            } else if (sign == '0') {
+                fault(text, 4, 22);
+            } else if (sign == '1') {
+                fault(text, 4, 24);
+            } else if (sign == '2') {
+                fault("knots 3 degree 1;row" + (char) sign + " 0 1;", 6, 25);
+            } else if (sign >= '3' && sign <= '9') {
+                fault(text, 3, 20);
+            } else {
+                fault(text, 1, 20);
+            }
+        }
+    }
+
     /** Every byte between two KNOTS. */
     private static void everyByteBetweenKnots() {
         for (int sign = 0; sign < 256; sign++) {
@@ -256,24 +279,39 @@ public final class TextEdgesTest {
         }
     }
 
-    /** "words (a .. z, the longest row)": a sign less or more is another word. */
+    /** "words (a .. z, the longest row)": a sign less, more or other is another word. */
     private static void wordsByTheLongestRow() {
         for (String word : WORDS) {
             String end = word.substring(0, word.length() - 1);
-            for (String other : new String[] {end, word + "s", word + word, word + "a", word + "z", "a" + word, end + "z",
+            for (String other : new String[] {end, word + "s", word + word, word + "a", word + "z", "a" + word,
                 word.substring(1), word.toUpperCase(Locale.ROOT)}) {
-                if (word.equals("knots")) {
-                    fault(other + " 3 degree 2;", 1, 0);
-                } else if (word.equals("degree")) {
-                    fault("knots 3 " + other + " 2;", 1, 8);
-                } else {
-                    fault("knots 3 degree 2;row 0 1;" + other + " 0 1;", 1, 25);
+                noWord(word, other);
+            }
+            for (int i = 0; i < word.length(); i++) {
+                for (char sign : new char[] {'a', 'z', (char) (word.charAt(i) ^ 1), (char) (word.charAt(i) - 32), 'x'}) {
+                    noWord(word, word.substring(0, i) + sign + word.substring(i + 1));
                 }
             }
         }
         for (String word : new String[] {"knots", "degree", "foo", "rowring", "x", "z"}) {
             fault(HEAD + word + " 0 1;", 1, 17);
         }
+    }
+
+    /** Another word in a word's place; where it has a sign that no word has, the word ends ahead of it. */
+    private static void noWord(String word, String other) {
+        if (other.equals(word)) {
+            return;
+        }
+        int place = word.equals("knots") ? 0 : word.equals("degree") ? 8 : 25;
+        int signs = 0;
+        while (signs < other.length() && other.charAt(signs) >= 'a' && other.charAt(signs) <= 'z') {
+            signs++;
+        }
+        boolean stands = place == 25 && other.substring(0, signs).matches("row|ring|all|star|off");
+        String before = place == 0 ? "" : place == 8 ? "knots 3 " : HEAD + "row 0 1;";
+        String behind = place == 0 ? " 3 degree 2;" : place == 8 ? " 2;" : " 0 1;";
+        fault(before + other + behind, 1, stands ? place + signs : place);
     }
 
     /** "(the text's length where it ends too soon)", behind blanks, too. */
@@ -587,6 +625,25 @@ public final class TextEdgesTest {
         fault(HEAD + "row 0 1;off 0 1 row", 1, 33);
     }
 
+    /** The same text read by the plain reading and by the class: fault, its place, and the net. */
+    private static void readAs(String text, int n) {
+        PlainNets plain = new PlainNets();
+        WiredNets x = new WiredNets();
+        Check.feed(x, text);
+        for (int at = 0; at < text.length(); at += 20) {
+            int[] w = words(text + times(20, " "), at);
+            plain.feed(w[0], w[1], w[2], w[3], w[4]);
+        }
+        String what = "first " + n + " bytes of '" + text + "'";
+        Check.due(what, plain.read(0, n), () -> x.read(0, n));
+        Check.due(what + ", fault", plain.fault(), () -> x.fault());
+        StringBuilder net = new StringBuilder(plain.count(0) == 0 ? "nothing" : plain.about(0, 0) + " " + plain.about(0, 1) + ":");
+        for (int i = 0; plain.count(0) > 0 && i < plain.about(0, 2); i++) {
+            net.append(' ').append(plain.lineAt(0, i) / 32).append('-').append(plain.lineAt(0, i) % 32);
+        }
+        Check.text(what, net.toString(), Seen.slot(x, 0));
+    }
+
     /** All beginnings of some texts, against the plain reading. */
     private static void everyBeginning() {
         String[] texts = {"knots 12 degree 3;row 0 11 ;ring 1 2 3;all 4 5 6;star 7 8 9 10;off 11 0;row 0 11;",
@@ -594,22 +651,20 @@ public final class TextEdgesTest {
             "knots 24 degree 1;row 22 23;row 0 1234 5;"};
         for (String text : texts) {
             for (int n = 0; n <= text.length(); n++) {
-                PlainNets plain = new PlainNets();
-                WiredNets x = new WiredNets();
-                int many = n;
-                Check.feed(x, text);
-                for (int at = 0; at < text.length(); at += 20) {
-                    int[] w = words(text + times(20, " "), at);
-                    plain.feed(w[0], w[1], w[2], w[3], w[4]);
-                }
-                String what = "first " + n + " bytes of '" + text + "'";
-                Check.due(what, plain.read(0, n), () -> x.read(0, many));
-                Check.due(what + ", fault", plain.fault(), () -> x.fault());
-                Map<String, String> seen = Seen.of(x);
-                Check.text(what + ", nets", Integer.toString(plain.count(0)), seen.get("nets"));
-                for (int i = 0; plain.count(0) > 0 && i < plain.about(0, 2); i++) {
-                    int at = i;
-                    Check.due(what + ", line " + at, plain.lineAt(0, at), () -> x.lineAt(0, at));
+                readAs(text, n);
+            }
+        }
+    }
+
+    /** Every byte put in or changed at every place of a text, against the plain reading. */
+    private static void everyByteEverywhere() {
+        String text = "knots 3 degree 2;row 0 1;off 1 0;";
+        for (int at = 0; at <= text.length(); at++) {
+            for (int sign = 0; sign < 256; sign++) {
+                String more = text.substring(0, at) + (char) sign + text.substring(at);
+                readAs(more, more.length());
+                if (at < text.length()) {
+                    readAs(text.substring(0, at) + (char) sign + text.substring(at + 1), text.length());
                 }
             }
         }

@@ -10,6 +10,7 @@ public final class WaysEdgesTest {
         hopsToTheLeast();
         notJoined();
         locksByFormula();
+        manyLinesWithoutLock();
         loadsOfRows();
         heavyRows();
         heavyStarsAndAll();
@@ -104,6 +105,28 @@ public final class WaysEdgesTest {
         }
         locks(true, "a ring with a tail", of("knots 8 degree 3;row 0 1 2 3;ring 3 4 5 6 7;"));
         locks(false, "a ring of four with a tail", of("knots 7 degree 3;row 0 1 2 3;ring 3 4 5 6;"));
+    }
+
+    /** Many LINES that don't lock: three of all of eight KNOTS, a LINE between each two that follow. */
+    private static void manyLinesWithoutLock() {
+        WiredNets x = new WiredNets();
+        x.net(0, 24, 8);
+        for (int a = 0; a < 24; a++) {
+            for (int b = a + 1; b < 24; b++) {
+                if (a / 8 == b / 8 || a == 7 && b == 8 || a == 15 && b == 16) {
+                    Check.hold("line", x.line(0, a, b));
+                }
+            }
+        }
+        Check.due("lines", 86, () -> x.about(0, 2));
+        locks(false, "three of all of eight", x);
+        Check.due("the greatest load", 128, () -> x.heavy(0, 0));
+        Check.due("from 7 to 8", 32 * 7 + 8, () -> x.heavy(0, 1));
+        Check.due("the pattern, nine against nine from 8 to 15", 9, () -> x.heavy(0, 2));
+        x.off(0, 0, 1);
+        x.off(0, 22, 23);
+        x.line(0, 0, 23);
+        locks(true, "a ring of three of them", x);
     }
 
     private static void locks(boolean due, String of, WiredNets x) {
