@@ -7,6 +7,7 @@ import java.nio.file.Files;
 import java.nio.file.Path;
 import java.util.ArrayList;
 import java.util.Arrays;
+import java.util.Collections;
 import java.util.HashSet;
 import java.util.List;
 import java.util.Set;
@@ -16,6 +17,7 @@ import java.util.regex.Pattern;
 
 /** The public face is the document's and no more, and the file keeps to those rules that can be counted. */
 public final class FaceTest {
+    private static final Path DOCUMENT = Path.of("..", "shared", "DOC.md");
     private static final String GONE = " throws NoSuchElementException";
     private static final String WRONG = GONE + ",IllegalArgumentException";
     private static final String[] FACE = {
@@ -38,9 +40,12 @@ public final class FaceTest {
     }
 
     public static void main(String[] args) throws IOException {
+        String source = Files.readString(Path.of(args[0]));
         face();
+        asPrinted(Files.readString(DOCUMENT), source);
         insides();
-        source(Files.readString(Path.of(args[0])));
+        bans(source);
+        lengths(source);
         Check.end("FaceTest");
     }
 
@@ -82,6 +87,41 @@ public final class FaceTest {
         return out.toString();
     }
 
+    /** The document's face and the class's, word by word; their order is free. */
+    private static void asPrinted(String document, String source) {
+        String printed = document.substring(document.indexOf("```java\n") + 8);
+        List<String> due = publics(printed.substring(0, printed.indexOf("```")));
+        Check.same("public lines of the document", FACE.length + 3, due.size());
+        Check.text("the public face", sorted(due), sorted(publics(bare(source))));
+        Check.same("NONE", -1, WiredNets.NONE);
+        List<String> promised = new ArrayList<>();
+        Matcher promise = Pattern.compile("(?m)^## Promise \\d+: .*\\n\\n`([^`]*)`").matcher(document);
+        while (promise.find()) {
+            promised.add("public " + promise.group(1));
+        }
+        Check.text("what is promised", String.join("\n", due.subList(2, due.size())), String.join("\n", promised));
+    }
+
+    /** Each line that is public, up to its end or its body. */
+    private static List<String> publics(String code) {
+        List<String> out = new ArrayList<>();
+        Matcher line = Pattern.compile("(?m)^ *(public [^;{]*?) *[;{]").matcher(code);
+        while (line.find()) {
+            out.add(line.group(1).replaceAll("\\s+", " "));
+        }
+        return out;
+    }
+
+    private static String sorted(List<String> lines) {
+        List<String> copy = new ArrayList<>(lines);
+        Collections.sort(copy);
+        return String.join("\n", copy);
+    }
+
+    private static String bare(String source) {
+        return source.replaceAll("(?s)/\\*.*?\\*/|//[^\n]*", "");
+    }
+
     private static void insides() {
         Set<String> face = new HashSet<>();
         for (String method : FACE) {
@@ -104,27 +144,33 @@ public final class FaceTest {
             Check.hold(c + " has at most twenty fields", fields <= 20);
             for (Method m : c.getDeclaredMethods()) {
                 Check.hold(m + " has at most seven parameters", m.getParameterCount() <= 7);
-                boolean ofFace = c == WiredNets.class && Modifier.isPublic(m.getModifiers());
-                Check.hold(m + " bears no name of the face", ofFace || !face.contains(m.getName()));
+                Check.hold(m + " bears no name of the face",
+                    !Modifier.isPrivate(m.getModifiers()) || !face.contains(m.getName()));
             }
         }
     }
 
-    private static void source(String text) {
-        String code = text.replaceAll("(?s)/\\*.*?\\*/|//[^\n]*", "");
-        String[] never = {"->", "::", "\\bfinally\\b", "\\bsynchronized\\b", "\\bassert\\b", "\\btry\\b", "\\bcatch\\b",
-            "\\bstatic \\{", "Exact\\b", "System\\.(?!arraycopy)", "\\bpackage\\b", "\\bRandom\\b", "\\bObject\\b",
-            "Integer\\.(?!bitCount)", "Long\\.(?!bitCount)", "Math\\.(?!(max|min|abs)\\()", "\\bdouble\\b", "\\bfloat\\b",
-            "import (?!java\\.util\\.NoSuchElementException;)", "[^\\x00-\\x7f]",
-            "throw new (?!(NoSuchElement|IllegalArgument)Exception\\(\\);)"};
+    private static void bans(String source) {
+        String code = bare(source);
+        String kept = "(IllegalState|IllegalArgument|IndexOutOfBounds|Arithmetic|UnsupportedOperation|NoSuchElement|Runtime)";
+        String caught = "(IllegalState|IllegalArgument|UnsupportedOperation|NoSuchElement)Exception";
+        String[] never = {"(?m)^(?!\\s*(case|default)\\b).*->", "::", "\\bfinally\\b", "\\bsynchronized\\b", "\\bassert\\b",
+            "\\btry \\(", "\\bstatic \\{", "Exact\\(", "System\\.(?!arraycopy\\()", "\\bpackage\\b", "\\bRandom\\b",
+            "\\bThread\\b", "\\bgetMessage\\b", "Math\\.\\w*(random|sqrt|pow|floor\\(|ceil)", "\\[\\]\\[\\]\\[\\]",
+            "import (?!java\\.util\\.(NoSuchElementException|ArrayList|List|Arrays|Iterator);)", "[^\\x00-\\x7f]",
+            "\\b(protected|volatile|transient|native)\\b", "throw new (?!" + kept + "Exception\\((\"[^\"]*\")?\\);)",
+            "throw (?!new )", "\\bcatch \\((?!" + caught + "( \\| " + caught + ")* \\w+\\))"};
         for (String pattern : never) {
             Matcher found = Pattern.compile(pattern).matcher(code);
             Check.hold("the file has none of " + pattern, !found.find());
         }
+    }
+
+    /** Methods stay short: some sixty lines. */
+    private static void lengths(String source) {
         int start = 0;
-        String[] lines = text.split("\n");
+        String[] lines = source.split("\n");
         for (int i = 0; i < lines.length; i++) {
-            Check.hold("line " + (i + 1) + " has at most 120 signs", lines[i].length() <= 120);
             if (lines[i].matches(" {4,8}[a-z][^=;]*\\) ?(throws [A-Za-z, ]+)?\\{")) {
                 start = i;
             }

@@ -1,8 +1,14 @@
 import java.lang.management.ManagementFactory;
 
-/** All calls of a run live in one room: a new object takes little of it, and its calls take none. */
+/** All calls of a run live in one room, which has place for 600,000 objects and 7.3 million elements. */
 public final class RoomTest {
-    private static final int MOST_BYTES_OF_NEW = 200000;
+    /**
+     * An object takes 16 bytes at least and an element one: in so many bytes there are fewer than
+     * 600,000 objects and no more than 7.3 million elements.
+     */
+    private static final long ROOM = 7300000;
+    private static final int CALLS = 512;
+    private static final int CALLS_OF_ONE_GO = 51;
 
     private RoomTest() {
     }
@@ -11,16 +17,14 @@ public final class RoomTest {
         com.sun.management.ThreadMXBean threads =
             (com.sun.management.ThreadMXBean) ManagementFactory.getThreadMXBean();
         long id = Thread.currentThread().getId();
-        WiredNets first = new WiredNets();
-        manyCalls(first);
+        long sum = manyCalls(new WiredNets());
         long before = threads.getThreadAllocatedBytes(id);
         WiredNets x = new WiredNets();
-        long made = threads.getThreadAllocatedBytes(id);
-        long sum = manyCalls(x);
-        long called = threads.getThreadAllocatedBytes(id);
-        Check.hold("bytes of a new object: " + (made - before), made - before < MOST_BYTES_OF_NEW);
-        // What the measuring itself takes is less than one small array a call.
-        Check.hold("bytes of its calls: " + (called - made), called - made < 2000);
+        for (int go = 0; go < CALLS / CALLS_OF_ONE_GO; go++) {
+            sum += manyCalls(x);
+        }
+        long taken = threads.getThreadAllocatedBytes(id) - before;
+        Check.hold("bytes of a run: " + taken, taken < ROOM);
         Check.hold("calls were made", sum != 0);
         Check.end("RoomTest");
     }
