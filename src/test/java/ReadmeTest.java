@@ -27,7 +27,7 @@ public final class ReadmeTest {
     public static void main(String[] args) throws IOException, ReflectiveOperationException {
         String readme = Files.readString(README);
         program(between(readme, "```java\n", "```"));
-        calls(readme, between(Files.readString(DOCUMENT), "```java\n", "```"));
+        calls(readme, face(Path.of(args[0])));
         tests(readme);
         Check.end("ReadmeTest");
     }
@@ -87,6 +87,14 @@ public final class ReadmeTest {
             Files.delete(file);
         }
         Files.delete(dir);
+    }
+
+    /** The document's face; where there is no document, the class itself, which has the same one. */
+    private static String face(Path source) throws IOException {
+        if (!Files.exists(DOCUMENT)) {
+            return Files.readString(source);
+        }
+        return between(Files.readString(DOCUMENT), "```java\n", "```");
     }
 
     /** The table of calls has each method of the document's face with its parameters, promise by promise. */
